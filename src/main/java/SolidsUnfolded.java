@@ -19,7 +19,9 @@ public final class SolidsUnfolded {
     private static final int MOST_STEPS = 3000;
     private static final int MOST_RIM = 2 * MOST_FACES + 2;
     private static final int MOST_GLUED = 22;
-    private static final int MOST_GLUINGS = 58786;
+    // Of all 384 and 31500 trees of hinges on one and on two CUBES none has more than 36.
+    private static final int MOST_GLUINGS = 64;
+    private static final int MOST_TURNS = 1000000;
     private static final int WHOLE_TURN = 4;
     private static final int SHELVES = 2;
 
@@ -40,7 +42,7 @@ public final class SolidsUnfolded {
     private final Skin skin = new Skin();
     private final Joints joints = new Joints();
     private final Sheet sheet = new Sheet();
-    private final Trader trader = new Trader();
+    private final Trader trader = new Trader(skin, sheet);
     private final Seeker seeker = new Seeker();
     private final Border border = new Border();
     private final Gluer gluer = new Gluer();
@@ -217,7 +219,7 @@ public final class SolidsUnfolded {
         int trades = 0;
         // Each trade takes one OVERLAP away at least.
         while (trades < MOST_OVERLAPS) {
-            trader.look(skin, joints, sheet);
+            trader.look(joints);
             if (trader.edge == NONE || trader.overlaps >= sheet.overlap(NONE)) {
                 break;
             }
@@ -541,7 +543,7 @@ public final class SolidsUnfolded {
         if (what < 0 || what > 2 || !allJoined()) {
             return NONE;
         }
-        trader.look(skin, joints, sheet);
+        trader.look(joints);
         if (trader.edge == NONE) {
             return NOT_SO;
         }
@@ -920,7 +922,7 @@ public final class SolidsUnfolded {
             int many = 1;
             queue[0] = from;
             ahead[from] = NONE;
-            for (int i = 0; i < many; i++) {
+            for (int i = 0; i < many && i < MOST_FACES; i++) {
                 int face = queue[i];
                 for (int slot = 4 * face; slot < 4 * face + 4; slot++) {
                     int other = across[slot] >> 2;
@@ -1020,7 +1022,7 @@ public final class SolidsUnfolded {
             start(skin);
             int many = 1;
             int far = 0;
-            for (int i = 0; i < many; i++) {
+            for (int i = 0; i < many && i < MOST_FACES; i++) {
                 int face = row[i];
                 for (int slot = 4 * face; slot < 4 * face + 4; slot++) {
                     int other = skin.across[slot] >> 2;
@@ -1075,7 +1077,7 @@ public final class SolidsUnfolded {
 
         void lay(Skin skin, Joints joints) {
             putRoot(joints.root, skin.faces);
-            for (int i = 0; i < count; i++) {
+            for (int i = 0; i < count && i < MOST_FACES; i++) {
                 int face = order[i];
                 for (int slot = 4 * face; slot < 4 * face + 4; slot++) {
                     if (joints.isHinge(skin.edgeAt[slot]) && !holds(skin.across[slot] >> 2)) {
@@ -1197,15 +1199,18 @@ public final class SolidsUnfolded {
         int overlaps = 0;
         // How many FACES lie at a place; places are less than 32 from the ROOT.
         private final int[] heap = new int[64 * 64];
-        private Skin skin = null;
-        private Sheet sheet = null;
+        private final Skin skin;
+        private final Sheet sheet;
 
-        void look(Skin ofSkin, Joints joints, Sheet ofSheet) {
+        Trader(Skin skin, Sheet sheet) {
+            this.skin = skin;
+            this.sheet = sheet;
+        }
+
+        void look(Joints joints) {
             if (known) {
                 return;
             }
-            skin = ofSkin;
-            sheet = ofSheet;
             edge = NONE;
             hinge = NONE;
             overlaps = 0;
@@ -1403,6 +1408,9 @@ public final class SolidsUnfolded {
         final int[] with = new int[MOST_GLUED];
         private int sides = 0;
         private final int[] words = new int[MOST_GLUINGS];
+        // By depth: the two SIDES glued there.
+        private final int[] first = new int[MOST_GLUED / 2 + 1];
+        private final int[] second = new int[MOST_GLUED / 2 + 1];
         // By depth: which point stands for a point, and the ANGLE of those that it stands for.
         private final int[][] stand = new int[MOST_GLUED / 2 + 1][MOST_GLUED];
         private final int[][] angle = new int[MOST_GLUED / 2 + 1][MOST_GLUED];
@@ -1413,7 +1421,21 @@ public final class SolidsUnfolded {
             }
             begin(border);
             found = 0;
-            glueOn(0);
+            int depth = 0;
+            open(0);
+            // Each turn glues two SIDES or takes up the two glued last.
+            for (int turn = 0; turn < MOST_TURNS && depth >= 0; turn++) {
+                if (2 * depth < sides && glueNext(depth)) {
+                    depth++;
+                    open(depth);
+                    continue;
+                }
+                if (2 * depth == sides) {
+                    store();
+                }
+                depth--;
+                takeUp(depth);
+            }
             known = true;
         }
 
@@ -1426,27 +1448,37 @@ public final class SolidsUnfolded {
             }
         }
 
-        // The first SIDE that is open is glued with each one that leaves evenly many between.
-        private void glueOn(int depth) {
-            if (depth >= sides / 2) {
-                store();
-                return;
+        // The first SIDE that is open is the next to be glued, with none yet.
+        private void open(int depth) {
+            int side = 0;
+            while (side < sides - 1 && with[side] != NONE) {
+                side++;
             }
-            int first = 0;
-            while (first < sides - 1 && with[first] != NONE) {
-                first++;
+            first[depth] = side;
+            second[depth] = side - 1;
+        }
+
+        private void takeUp(int depth) {
+            if (depth >= 0) {
+                with[first[depth]] = NONE;
+                with[second[depth]] = NONE;
             }
-            for (int other = first + 1; other < sides && with[other - 1] == NONE; other += 2) {
+        }
+
+        // Only open SIDES may lie between the two, and evenly many of them.
+        private boolean glueNext(int depth) {
+            int one = first[depth];
+            for (int two = second[depth] + 2; two < sides && with[two - 1] == NONE; two += 2) {
                 System.arraycopy(stand[depth], 0, stand[depth + 1], 0, sides);
                 System.arraycopy(angle[depth], 0, angle[depth + 1], 0, sides);
-                if (with[other] == NONE && glueTwo(depth + 1, first, other)) {
-                    with[first] = other;
-                    with[other] = first;
-                    glueOn(depth + 1);
-                    with[first] = NONE;
-                    with[other] = NONE;
+                if (with[two] == NONE && glueTwo(depth + 1, one, two)) {
+                    with[one] = two;
+                    with[two] = one;
+                    second[depth] = two;
+                    return true;
                 }
             }
+            return false;
         }
 
         private void store() {
@@ -1466,9 +1498,9 @@ public final class SolidsUnfolded {
             return word;
         }
 
-        private boolean glueTwo(int depth, int first, int other) {
+        private boolean glueTwo(int depth, int side, int other) {
             int behind = other + 1 < sides ? other + 1 : 0;
-            return makeOne(depth, first, behind) && makeOne(depth, first + 1, other);
+            return makeOne(depth, side, behind) && makeOne(depth, side + 1, other);
         }
 
         private boolean makeOne(int depth, int point, int other) {
