@@ -189,7 +189,7 @@ public final class SolidsUnfolded {
             return NONE;
         }
         history.remember(joints);
-        int far = kind == 0 ? joints.growByBreadth(skin) : joints.growByDepth(skin);
+        int far = kind == 0 ? skin.growByBreadth(joints) : skin.growByDepth(joints);
         settle();
         return far;
     }
@@ -734,7 +734,9 @@ public final class SolidsUnfolded {
                 if (far == 0) {
                     return false;
                 }
-                touches |= far == 1;
+                if (far == 1) {
+                    touches = true;
+                }
             }
             return touches;
         }
@@ -791,6 +793,8 @@ public final class SolidsUnfolded {
         final int[] facesRound = new int[MOST_SLOTS];
         private final int[] queue = new int[MOST_FACES];
         private final int[] ahead = new int[MOST_FACES];
+        private final int[] depth = new int[MOST_FACES];
+        private final int[] sideNow = new int[MOST_FACES];
 
         void make(int[] from, int howMany) {
             cubes = Math.min(howMany, MOST_CUBES);
@@ -818,16 +822,17 @@ public final class SolidsUnfolded {
         // The CUBE one step from a CUBE in one direction and in another one (NONE: in none).
         private int cubeBeside(int cube, int one, int two) {
             for (int other = 0; other < cubes; other++) {
-                boolean there = true;
-                for (int axis = 0; axis < 3; axis++) {
-                    int due = spots[3 * cube + axis] + step(one, axis) + step(two, axis);
-                    there &= spots[3 * other + axis] == due;
-                }
-                if (there) {
+                if (isAway(cube, other, 0, step(one, 0) + step(two, 0))
+                        && isAway(cube, other, 1, step(one, 1) + step(two, 1))
+                        && isAway(cube, other, 2, step(one, 2) + step(two, 2))) {
                     return other;
                 }
             }
             return NONE;
+        }
+
+        private boolean isAway(int cube, int other, int axis, int far) {
+            return spots[3 * other + axis] == spots[3 * cube + axis] + far;
         }
 
         private static int step(int direction, int axis) {
@@ -962,6 +967,63 @@ public final class SolidsUnfolded {
             }
             return face;
         }
+
+        private void startTree(Joints joints) {
+            joints.hinges = 0L;
+            for (int face = 0; face < faces; face++) {
+                depth[face] = NONE;
+                sideNow[face] = 0;
+            }
+            depth[joints.root] = 0;
+            queue[0] = joints.root;
+        }
+
+        // How many FACES the queue has then: one more, if that behind the SIDE was not come to.
+        private int growBehind(int slot, int many, Joints joints) {
+            int other = across[slot] >> 2;
+            if (depth[other] != NONE || many >= MOST_FACES) {
+                return many;
+            }
+            joints.setHinge(edgeAt[slot]);
+            depth[other] = depth[slot >> 2] + 1;
+            queue[many] = other;
+            return many + 1;
+        }
+
+        int growByBreadth(Joints joints) {
+            startTree(joints);
+            int many = 1;
+            for (int i = 0; i < many && i < MOST_FACES; i++) {
+                for (int side = 0; side < 4; side++) {
+                    many = growBehind(4 * queue[i] + side, many, joints);
+                }
+            }
+            return greatestDepth();
+        }
+
+        // The queue is the way from the ROOT to the FACE looked at; each turn takes one SIDE or steps back.
+        int growByDepth(Joints joints) {
+            startTree(joints);
+            int many = 1;
+            for (int turn = 0; turn < 5 * MOST_FACES && many > 0; turn++) {
+                int face = queue[many - 1];
+                if (sideNow[face] > 3) {
+                    many--;
+                } else {
+                    many = growBehind(4 * face + sideNow[face], many, joints);
+                    sideNow[face]++;
+                }
+            }
+            return greatestDepth();
+        }
+
+        private int greatestDepth() {
+            int far = 0;
+            for (int face = 0; face < faces; face++) {
+                far = Math.max(far, depth[face]);
+            }
+            return far;
+        }
     }
 
     /** Which EDGES are HINGES, what they weigh, and the ROOT. */
@@ -969,9 +1031,6 @@ public final class SolidsUnfolded {
         long hinges = 0L;
         int root = 0;
         final int[] weights = new int[MOST_EDGES];
-        private final int[] depth = new int[MOST_FACES];
-        private final int[] row = new int[MOST_FACES];
-        private final int[] sideNow = new int[MOST_FACES];
 
         void begin() {
             hinges = 0L;
@@ -1006,61 +1065,6 @@ public final class SolidsUnfolded {
 
         int howMany() {
             return Long.bitCount(hinges);
-        }
-
-        private void start(Skin skin) {
-            hinges = 0L;
-            for (int face = 0; face < skin.faces; face++) {
-                depth[face] = NONE;
-                sideNow[face] = 0;
-            }
-            depth[root] = 0;
-            row[0] = root;
-        }
-
-        int growByBreadth(Skin skin) {
-            start(skin);
-            int many = 1;
-            int far = 0;
-            for (int i = 0; i < many && i < MOST_FACES; i++) {
-                int face = row[i];
-                for (int slot = 4 * face; slot < 4 * face + 4; slot++) {
-                    int other = skin.across[slot] >> 2;
-                    if (depth[other] == NONE && many < MOST_FACES) {
-                        setHinge(skin.edgeAt[slot]);
-                        depth[other] = depth[face] + 1;
-                        far = Math.max(far, depth[other]);
-                        row[many] = other;
-                        many++;
-                    }
-                }
-            }
-            return far;
-        }
-
-        // The row is the way from the ROOT to the FACE looked at; each turn takes one SIDE or steps back.
-        int growByDepth(Skin skin) {
-            start(skin);
-            int many = 1;
-            int far = 0;
-            for (int turn = 0; turn < 5 * MOST_FACES && many > 0; turn++) {
-                int face = row[many - 1];
-                if (sideNow[face] > 3) {
-                    many--;
-                    continue;
-                }
-                int slot = 4 * face + sideNow[face];
-                int other = skin.across[slot] >> 2;
-                sideNow[face]++;
-                if (depth[other] == NONE && many < MOST_FACES) {
-                    setHinge(skin.edgeAt[slot]);
-                    depth[other] = many;
-                    far = Math.max(far, many);
-                    row[many] = other;
-                    many++;
-                }
-            }
-            return far;
         }
     }
 
@@ -1197,8 +1201,8 @@ public final class SolidsUnfolded {
         int edge = NONE;
         int hinge = NONE;
         int overlaps = 0;
-        // How many FACES lie at a place; places are less than 32 from the ROOT.
-        private final int[] heap = new int[64 * 64];
+        // Places of the FACES laid down: by y, bit x, both less than 32 from the ROOT.
+        private final long[] taken = new long[64];
         private final Skin skin;
         private final Sheet sheet;
 
@@ -1225,10 +1229,8 @@ public final class SolidsUnfolded {
         // What is cut off moves as one, so OVERLAPS within both parts are counted once.
         private void lookAt(int cut, Joints joints) {
             int off = cutOff(cut);
-            int within = pile(off, 1);
-            pile(off, -1);
             int rest = sheet.placed & ~off;
-            within += pile(rest, 1);
+            int within = layDown(off) + layDown(rest);
             for (int join = 0; join < skin.edges; join++) {
                 boolean firstOff = (off >>> skin.faceOf(join, 0) & 1) != 0;
                 boolean secondOff = (off >>> skin.faceOf(join, 1) & 1) != 0;
@@ -1238,7 +1240,6 @@ public final class SolidsUnfolded {
                     compare(join, cut, within + between(off, stay, move));
                 }
             }
-            pile(rest, -1);
         }
 
         private void compare(int join, int cut, int many) {
@@ -1263,21 +1264,36 @@ public final class SolidsUnfolded {
             return off;
         }
 
-        // Lays FACES down (1) or takes them up (-1): how many twos of them lie at one place.
-        private int pile(int faces, int step) {
+        // Lays down these FACES alone: how many twos of them lie at one place.
+        private int layDown(int faces) {
+            for (int i = 0; i < 64; i++) {
+                taken[i] = 0L;
+            }
             int twos = 0;
+            int down = 0;
             for (int face = 0; face < MOST_FACES; face++) {
                 if ((faces >>> face & 1) != 0) {
-                    int cell = cellOf(sheet.x[face], sheet.y[face]);
-                    twos += heap[cell];
-                    heap[cell] += step;
+                    int x = sheet.x[face];
+                    int y = sheet.y[face];
+                    twos += howManyAt(down, x, y);
+                    taken[(y + 32) & 63] |= 1L << ((x + 32) & 63);
+                    down |= 1 << face;
                 }
             }
             return twos;
         }
 
-        private int cellOf(int x, int y) {
-            return ((x + 32) & 63) << 6 | ((y + 32) & 63);
+        private int howManyAt(int down, int x, int y) {
+            if ((taken[(y + 32) & 63] >>> ((x + 32) & 63) & 1L) == 0L) {
+                return 0;
+            }
+            int many = 0;
+            for (int face = 0; face < MOST_FACES; face++) {
+                if ((down >>> face & 1) != 0 && sheet.x[face] == x && sheet.y[face] == y) {
+                    many++;
+                }
+            }
+            return many;
         }
 
         // OVERLAPS of FACES that stay with those that move on, behind the SIDE that stays.
@@ -1291,7 +1307,7 @@ public final class SolidsUnfolded {
                     int dy = sheet.y[face] - sheet.y[pivot];
                     int newX = sheet.xBehind(stay) + dx * STEP_X[turned] - dy * STEP_Y[turned];
                     int newY = sheet.yBehind(stay) + dx * STEP_Y[turned] + dy * STEP_X[turned];
-                    many += heap[cellOf(newX, newY)];
+                    many += howManyAt(sheet.placed & ~off, newX, newY);
                 }
             }
             return many;
@@ -1611,8 +1627,8 @@ public final class SolidsUnfolded {
         }
 
         private void turn(Sheet sheet, int kind) {
-            int leastX = Integer.MAX_VALUE;
-            int leastY = Integer.MAX_VALUE;
+            int leastX = MOST_FACES;
+            int leastY = MOST_FACES;
             for (int face = 0; face < cells; face++) {
                 int x = (kind & 4) == 0 ? sheet.x[face] : -sheet.x[face];
                 int y = sheet.y[face];

@@ -1,0 +1,91 @@
+import java.lang.reflect.Member;
+import java.lang.reflect.Modifier;
+import java.nio.file.Files;
+import java.nio.file.Path;
+import java.util.HashSet;
+import java.util.List;
+import java.util.Set;
+import java.util.regex.Matcher;
+import java.util.regex.Pattern;
+
+/** What of LANGUAGE.md a reader of the source and of the class can see. */
+final class LanguageTest {
+    private static int wrong = 0;
+
+    static void due(boolean so, String what) {
+        if (!so) {
+            wrong++;
+            System.out.println("not so: " + what);
+        }
+    }
+
+    static void words(String source) {
+        String bare = source.replaceAll("(?s)/\\*.*?\\*/", "").replaceAll("//[^\n]*", "");
+        List<String> none = List.of("\\bthrow\\b", "\\bthrows\\b", "\\btry\\b", "\\bcatch\\b", "\\bimport\\b",
+            "\\bsynchronized\\b", "\\bassert\\b", "->", "::", "\\bvar\\b", "Exact\\b", "\\bstatic\\s*\\{",
+            "\\bInteger\\.[A-Z]", "\\bLong\\.[A-Z]", "\\bprotected\\b");
+        for (String word : none) {
+            Matcher m = Pattern.compile(word).matcher(bare);
+            due(!m.find(), "without " + word);
+        }
+        due(source.chars().allMatch(c -> c < 128), "plain signs alone");
+    }
+
+    static void face() {
+        Set<String> names = new HashSet<>();
+        int methods = 0;
+        for (Member m : SolidsUnfolded.class.getDeclaredMethods()) {
+            if (Modifier.isPublic(m.getModifiers())) {
+                methods++;
+                names.add(m.getName());
+            }
+        }
+        due(methods == 35 && names.size() == 35, "35 public methods");
+        due(Modifier.isFinal(SolidsUnfolded.class.getModifiers()), "final");
+        due(SolidsUnfolded.class.getDeclaredClasses().length <= 11, "twelve classes");
+        hidden(SolidsUnfolded.class, names);
+        for (Class<?> inside : SolidsUnfolded.class.getDeclaredClasses()) {
+            due(Modifier.isStatic(inside.getModifiers()) && Modifier.isPrivate(inside.getModifiers()), inside + " private");
+            due(inside.getDeclaredFields().length <= 20, inside + " twenty fields");
+            for (Member m : inside.getDeclaredMethods()) {
+                due(!names.contains(m.getName()), m + " has a name of its own");
+            }
+        }
+    }
+
+    static void hidden(Class<?> type, Set<String> names) {
+        for (Member m : type.getDeclaredMethods()) {
+            boolean open = Modifier.isPublic(m.getModifiers());
+            due(open || Modifier.isPrivate(m.getModifiers()) || m.isSynthetic(), m + " private");
+            due(open || !names.contains(m.getName()), m + " has a name of its own");
+        }
+        for (Member m : type.getDeclaredFields()) {
+            due(Modifier.isPrivate(m.getModifiers()) || m.getName().equals("NONE"), m + " private");
+        }
+    }
+
+    static void lengths(String source) {
+        int begin = 0;
+        int line = 0;
+        for (String text : source.split("\n")) {
+            line++;
+            if (text.matches(" {4}( {4})?[a-zA-Z].*\\{") && !text.contains(" class ")) {
+                begin = line;
+            }
+            if (text.matches(" {4}( {4})?\\}")) {
+                due(line - begin <= 60 || text.startsWith("    }"), "short method, line " + begin);
+            }
+        }
+    }
+
+    public static void main(String[] args) throws Exception {
+        String source = Files.readString(Path.of("src/main/java/SolidsUnfolded.java"));
+        words(source);
+        face();
+        lengths(source);
+        System.out.println(wrong == 0 ? "the language is kept" : wrong + " rules are not kept");
+        if (wrong != 0) {
+            System.exit(1);
+        }
+    }
+}
