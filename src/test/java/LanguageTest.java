@@ -65,17 +65,16 @@ final class LanguageTest {
     }
 
     static void lengths(String source) {
-        int begin = 0;
-        int line = 0;
-        for (String text : source.split("\n")) {
-            line++;
-            if (text.matches(" {4}( {4})?[a-zA-Z].*\\{") && !text.contains(" class ")) {
-                begin = line;
-            }
-            if (text.matches(" {4}( {4})?\\}")) {
-                due(line - begin <= 60 || text.startsWith("    }"), "short method, line " + begin);
-            }
+        Pattern method = Pattern.compile("(?m)^( {4}| {8})(?!for |if |while |switch |\\})[^ \n][^\n]*\\) \\{\n(?s:.*?)^\\1\\}");
+        Matcher m = method.matcher(source);
+        int methods = 0;
+        while (m.find()) {
+            methods++;
+            long lines = m.group().lines().count();
+            due(lines <= 60, "a short method: " + m.group().lines().findFirst().get());
         }
+        due(methods > 100, "methods are found");
+        due(source.lines().allMatch(line -> line.length() <= 120), "short lines");
     }
 
     public static void main(String[] args) throws Exception {

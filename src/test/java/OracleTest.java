@@ -180,6 +180,38 @@ final class OracleTest {
         }
     }
 
+    /** Trees by random weights: their best trades, what mending makes of them, and their outlines. */
+    static void askTrees(int runs) {
+        for (int run = 0; run < runs; run++) {
+            seed = 500000 + run;
+            SolidsUnfolded x = new SolidsUnfolded();
+            Oracle o = new Oracle();
+            tell(x, o, randomText());
+            int edges = o.now.skin.edges.size();
+            for (int i = 0; i < edges; i++) {
+                int weight = some(10);
+                check("weigh", x.weigh(i, weight), o.weigh(i, weight));
+            }
+            int face = some(31);
+            check("root", x.root(face), o.root(face));
+            check("span", x.span(), o.span());
+            check("overlaps", x.over(NONE), o.over(NONE));
+            check("outline", x.outline(), o.outline());
+            if (rare(4)) {
+                for (int what = 0; what < 3; what++) {
+                    check("best " + what, x.best(what), o.best(what));
+                }
+                check("mend", x.mend(), o.mend());
+            } else {
+                check("seek", x.seek(), o.seek());
+            }
+            check("outline after", x.outline(), o.outline());
+            for (int i = 0; i < edges; i++) {
+                check("hinge", x.edge(i, 6), o.edge(i, 6));
+            }
+        }
+    }
+
     public static void main(String[] args) {
         int runs = args.length > 0 ? Integer.parseInt(args[0]) : 150;
         for (int run = 0; run < runs; run++) {
@@ -190,7 +222,9 @@ final class OracleTest {
                 if (i == 2 || rare(15)) {
                     tell(x, o, rare(4) ? "cube 0 0 0" : rare(3) ? "cube 3 2 1; cube 3 2 0" : randomText());
                 }
-                act(x, o);
+                for (int acts = some(3); acts >= 0; acts--) {
+                    act(x, o);
+                }
                 askOne(x, o);
             }
             askAll(x, o);
@@ -202,6 +236,7 @@ final class OracleTest {
             seed = 77000 + i;
             tell(new SolidsUnfolded(), new Oracle(), randomText());
         }
+        askTrees(3 * runs);
         System.out.println(calls + " calls, " + wrong + " wrong");
         if (wrong != 0) {
             System.exit(1);

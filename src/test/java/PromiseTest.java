@@ -96,6 +96,12 @@ final class PromiseTest {
         fault("cub 0 0 0", 0, 1);
         fault("  cubes 0 0 0", 2, 1);
         fault("Cube 0 0 0", 0, 1);
+        fault("cubea 0 0 0", 0, 1);
+        fault(" cubez0 0 0", 1, 1);
+        fault("cube{0 0 0", 4, 1);
+        fault("cube`0 0 0", 4, 1);
+        fault("cube 0 0 0:", 10, 1);
+        fault("cube 0 0 0/", 10, 1);
         fault("0 0 0", 0, 1);
         fault("cube 0 0", 8, 1);
         fault("cube 0 0 ", 9, 1);
@@ -220,6 +226,11 @@ final class PromiseTest {
         x.root(3);
         due("10: from another root", x.tree(0), 2);
         due("10: root's hinges", x.face(3, 2), 4);
+        SolidsUnfolded y = made(CUBE);
+        for (int e = 0; e < 12; e++) {
+            y.weigh(e, 9);
+        }
+        due("9: dearest ones", y.span(), 45);
         due("9: no solid", new SolidsUnfolded().span(), NONE);
         due("10: no solid", new SolidsUnfolded().tree(0), NONE);
         due("9: no act without", new SolidsUnfolded().count(7), 0);
@@ -606,6 +617,12 @@ final class PromiseTest {
         tell(x, TWO);
         x.tree(0);
         due("34: of another solid", x.alike(0), 0);
+        x.keep(0);
+        due("34: itself", x.alike(0), 1);
+        x.tree(1);
+        x.keep(1);
+        x.tree(0);
+        due("34: kept as it was then", x.alike(1), 0);
         due("33: no solid", new SolidsUnfolded().outline(), 0);
     }
 
