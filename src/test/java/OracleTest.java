@@ -197,7 +197,7 @@ final class OracleTest {
             check("span", x.span(), o.span());
             check("overlaps", x.over(NONE), o.over(NONE));
             check("outline", x.outline(), o.outline());
-            if (rare(4)) {
+            if (o.over(NONE) > 0 || rare(8)) {
                 for (int what = 0; what < 3; what++) {
                     check("best " + what, x.best(what), o.best(what));
                 }
