@@ -1,54 +1,7 @@
 /** Each promise by answers worked out by hand from the document: ordinary ones, edges, wrong inputs. */
-final class PromiseTest {
-    private static final int NONE = SolidsUnfolded.NONE;
-    private static final int LEAST = Integer.MIN_VALUE;
-    private static final int MOST = Integer.MAX_VALUE;
-    private static final String CUBE = "cube 0 0 0";
-    private static final String TWO = "cube 0 0 0;cube 1 0 0";
-    private static final String BENT = "cube 0 0 0;cube 1 0 0;cube 0 1 0";
-    private static int wrong = 0;
-    private static int tests = 0;
-
-    static void due(String call, long got, long want) {
-        tests++;
-        if (got != want) {
-            wrong++;
-            System.out.println(call + " answered " + got + ", due is " + want);
-        }
-    }
-
-    static int tell(SolidsUnfolded x, String text) {
-        x.end(0);
-        StringBuilder full = new StringBuilder(text);
-        while (full.length() % 20 != 0) {
-            full.append('?');
-        }
-        for (int k = 0; k < full.length(); k += 20) {
-            int[] n = new int[5];
-            for (int i = 0; i < 20; i++) {
-                n[i / 4] = n[i / 4] << 8 | full.charAt(k + i);
-            }
-            x.feed(n[0], n[1], n[2], n[3], n[4]);
-        }
-        x.end(text.length());
-        return x.solid();
-    }
-
-    static SolidsUnfolded made(String text) {
-        SolidsUnfolded x = new SolidsUnfolded();
-        tell(x, text);
-        return x;
-    }
-
-    /** The first face with hinges to the four around it, the sixth behind one of them. */
-    static SolidsUnfolded cross() {
-        SolidsUnfolded x = made(CUBE);
-        x.tree(0);
-        return x;
-    }
-
+final class PromiseTest extends Check {
     static void newObject() {
-        SolidsUnfolded x = new SolidsUnfolded();
+        Used x = new Used();
         for (int what = 0; what < 11; what++) {
             due("1: count " + what, x.count(what), 0);
         }
@@ -59,7 +12,7 @@ final class PromiseTest {
     }
 
     static void tape() {
-        SolidsUnfolded x = new SolidsUnfolded();
+        Used x = new Used();
         for (int i = 1; i <= 10; i++) {
             due("2: feed " + i, x.feed(0x63756265, 0x20302030, 0x20302020, 0x20202020, 0x20202020), 20 * i);
         }
@@ -82,7 +35,7 @@ final class PromiseTest {
     }
 
     static void fault(String text, int place, int kind) {
-        SolidsUnfolded x = new SolidsUnfolded();
+        Used x = new Used();
         due("4: fault of '" + text + "'", tell(x, text), -2 - 8 * place - kind);
         due("4: no solid", x.count(1), 0);
         due("4: the tape is empty", x.count(8), 0);
@@ -127,15 +80,15 @@ final class PromiseTest {
         fault("cube 0 0 0;cube 1 1 00 ", 20, 4);
         fault("cube 0 0 0;cube 1 1 7", 20, 2);
         fault("cube 0 0 0;cube 0 0 1;cube 0 0 2;cube 0 1 2;cube 0 2 2;cube 0 2 1;cube 0 1 0 ", 77, 5);
-        due("4: seven cubes", tell(new SolidsUnfolded(), six + "cube0 0 6"), 30);
-        due("4: blanks as one likes", tell(new SolidsUnfolded(), " cube00 06  006;cube 0 6 5 "), 10);
-        due("4: a word just behind a number", tell(new SolidsUnfolded(), "cube0 0 0cube"), -2 - 8 * 9 - 1);
-        due("4: corners alone may touch", tell(new SolidsUnfolded(),
+        due("4: seven cubes", tell(new Used(), six + "cube0 0 6"), 30);
+        due("4: blanks as one likes", tell(new Used(), " cube00 06  006;cube 0 6 5 "), 10);
+        due("4: a word just behind a number", tell(new Used(), "cube0 0 0cube"), -2 - 8 * 9 - 1);
+        due("4: corners alone may touch", tell(new Used(),
             "cube 0 0 0;cube 1 0 0;cube 1 1 0;cube 0 1 0"), 16);
     }
 
     static void solid() {
-        SolidsUnfolded x = cross();
+        Used x = cross();
         x.weigh(3, 7);
         x.root(4);
         x.keep(0);
@@ -155,7 +108,7 @@ final class PromiseTest {
     }
 
     static void hingesAndCuts() {
-        SolidsUnfolded x = made(CUBE);
+        Used x = made(CUBE);
         due("5: hinge 0", x.hinge(0), 1);
         due("5: again", x.hinge(0), -2);
         due("5: hinge 1", x.hinge(1), 2);
@@ -176,7 +129,7 @@ final class PromiseTest {
     }
 
     static void rootAndWeigh() {
-        SolidsUnfolded x = made(CUBE);
+        Used x = made(CUBE);
         due("7: root 0", x.root(0), -2);
         due("7: root 6", x.root(6), NONE);
         due("7: root -1", x.root(-1), NONE);
@@ -198,7 +151,7 @@ final class PromiseTest {
     }
 
     static void trees() {
-        SolidsUnfolded x = made(CUBE);
+        Used x = made(CUBE);
         x.hinge(11);
         // By number: 0 to 3 join face 0 with 2, 4, 3, 5; edge 4 joins 1 with 4.
         due("9: span", x.span(), 5);
@@ -226,18 +179,18 @@ final class PromiseTest {
         x.root(3);
         due("10: from another root", x.tree(0), 2);
         due("10: root's hinges", x.face(3, 2), 4);
-        SolidsUnfolded y = made(CUBE);
+        Used y = made(CUBE);
         for (int e = 0; e < 12; e++) {
             y.weigh(e, 9);
         }
         due("9: dearest ones", y.span(), 45);
-        due("9: no solid", new SolidsUnfolded().span(), NONE);
-        due("10: no solid", new SolidsUnfolded().tree(0), NONE);
-        due("9: no act without", new SolidsUnfolded().count(7), 0);
+        due("9: no solid", new Used().span(), NONE);
+        due("10: no solid", new Used().tree(0), NONE);
+        due("9: no act without", new Used().count(7), 0);
     }
 
     static void trades() {
-        SolidsUnfolded x = cross();
+        Used x = cross();
         int behind = x.side(1, 1, 0);
         due("11: face 2 behind side 1 of 1", x.side(1, 1, 1), 2);
         due("11: a trade", x.trade(4, behind), 0);
@@ -255,7 +208,7 @@ final class PromiseTest {
         due("11: not all joined", x.trade(0, 4), -3);
         due("12: not all joined", x.mend(), NONE);
         due("35: not all joined", x.best(0), NONE);
-        SolidsUnfolded y = made(BENT);
+        Used y = made(BENT);
         due("11: overlaps by breadth", y.tree(0), 3);
         due("23: one", y.over(NONE), 1);
         due("23: which", y.over(0), 509);
@@ -275,26 +228,26 @@ final class PromiseTest {
         y.undo();
         due("12: undone", y.undo(), 1);
         due("11: overlaps of a trade", y.trade(11, 15), 0);
-        due("12: no solid", new SolidsUnfolded().mend(), NONE);
+        due("12: no solid", new Used().mend(), NONE);
     }
 
     static void firstNet() {
-        SolidsUnfolded x = made(CUBE);
+        Used x = made(CUBE);
         due("13: seek", x.seek(), 6);
         due("13: hinge 4", x.edge(4, 6), 1);
         due("13: face 1", x.place(1, 1), 2);
-        due("13: no solid", new SolidsUnfolded().seek(), NONE);
-        SolidsUnfolded y = made("cube 3 3 3;cube 2 3 3;cube 4 3 3;cube 3 2 3;cube 3 4 3;cube 3 3 2;cube 3 3 4");
+        due("13: no solid", new Used().seek(), NONE);
+        Used y = made("cube 3 3 3;cube 2 3 3;cube 4 3 3;cube 3 2 3;cube 3 4 3;cube 3 3 2;cube 3 3 4");
         due("13: thirty faces", y.count(1), 30);
         due("13: steps", y.seek(), 218);
         due("13: a net", y.over(NONE), 0);
         due("13: all placed", y.count(6), 30);
         due("13: an act", y.count(7), 1);
-        SolidsUnfolded most = made("cube 5 6 5;cube 6 6 5;cube 4 6 5;cube 5 5 5;cube 4 6 6;cube 5 6 4");
+        Used most = made("cube 5 6 5;cube 6 6 5;cube 4 6 5;cube 5 5 5;cube 4 6 6;cube 5 6 4");
         most.root(20);
         due("13: 3000 steps", most.seek(), 3000);
         due("13: a net of them", most.over(NONE), 0);
-        SolidsUnfolded more = made("cube 4 2 2;cube 4 1 2;cube 3 2 2;cube 4 3 2;cube 5 3 2;cube 3 2 3;cube 2 2 2");
+        Used more = made("cube 4 2 2;cube 4 1 2;cube 3 2 2;cube 4 3 2;cube 5 3 2;cube 3 2 3;cube 2 2 2");
         more.root(9);
         more.hinge(5);
         due("13: 3001 steps", more.seek(), -3);
@@ -303,7 +256,7 @@ final class PromiseTest {
     }
 
     static void undone() {
-        SolidsUnfolded x = made(CUBE);
+        Used x = made(CUBE);
         due("14: none", x.undo(), NONE);
         for (int w = 2; w <= 9; w++) {
             x.weigh(0, w);
@@ -330,7 +283,7 @@ final class PromiseTest {
     }
 
     static void shelves() {
-        SolidsUnfolded x = new SolidsUnfolded();
+        Used x = new Used();
         due("15: no shelf 2", x.keep(2), NONE);
         due("15: no shelf -1", x.keep(-1), NONE);
         due("16: no shelf 2", x.back(2), NONE);
@@ -362,7 +315,7 @@ final class PromiseTest {
     }
 
     static void skin() {
-        SolidsUnfolded x = made(BENT);
+        Used x = made(BENT);
         // Cube 0 has faces 0 to 3 (1, 3, 4, 5), cube 1 4 to 8 (0, 2, 3, 4, 5), cube 2 9 to 13 (0, 1, 2, 4, 5).
         int[] cubes = {0, 0, 0, 0, 1, 1, 1, 1, 1, 2, 2, 2, 2, 2};
         int[] ways = {1, 3, 4, 5, 0, 2, 3, 4, 5, 0, 1, 2, 4, 5};
@@ -422,7 +375,7 @@ final class PromiseTest {
     }
 
     static void plane() {
-        SolidsUnfolded x = cross();
+        Used x = cross();
         int[][] spots = {{0, 0, 0}, {2, 0, 1}, {1, 0, 1}, {-1, 0, 0}, {0, 1, 3}, {0, -1, 0}};
         for (int f = 0; f < 6; f++) {
             for (int what = 0; what < 3; what++) {
@@ -443,7 +396,7 @@ final class PromiseTest {
         }
         due("24: 4", x.box(4), -1000);
         due("24: -1", x.box(-1), -1000);
-        due("24: no solid", new SolidsUnfolded().box(0), -1000);
+        due("24: no solid", new Used().box(0), -1000);
         due("25: face 2 and behind", x.part(0), 4 + 2);
         due("25: face 4", x.part(1), 16);
         due("25: no hinge", x.part(8), -2);
@@ -451,13 +404,13 @@ final class PromiseTest {
         due("25: no edge -1", x.part(-1), NONE);
         x.root(1);
         due("25: from the other side", x.part(0), 1 + 8 + 16 + 32);
-        SolidsUnfolded y = made(CUBE);
+        Used y = made(CUBE);
         y.hinge(8);
         due("25: none placed", y.part(8), 0);
     }
 
     static void ways() {
-        SolidsUnfolded x = cross();
+        Used x = cross();
         int[] way = {1, 2, 0, 5};
         due("26: how far", x.way(1, 5, NONE), 3);
         for (int k = 0; k < 4; k++) {
@@ -480,7 +433,7 @@ final class PromiseTest {
 
     static void freeEdges() {
         // Faces 2, 7, 12 (z rising) lie in one plane with 2 in the corner: none closes a ring of four.
-        SolidsUnfolded x = made("cube 0 0 0;cube 1 0 0;cube 1 1 0;cube 0 1 0");
+        Used x = made("cube 0 0 0;cube 1 0 0;cube 1 1 0;cube 0 1 0");
         int[] up = new int[4];
         for (int f = 0; f < 16; f++) {
             if (x.face(f, 1) == 4) {
@@ -513,7 +466,7 @@ final class PromiseTest {
     }
 
     static void rims() {
-        SolidsUnfolded x = cross();
+        Used x = cross();
         int[][] rim = {{1, 0, 1, 3}, {2, 0, 2, 2}, {4, 1, 3, 1}, {4, 2, 1, 0}};
         for (int k = 0; k < 4; k++) {
             for (int what = 0; what < 4; what++) {
@@ -538,7 +491,7 @@ final class PromiseTest {
     }
 
     static void glue() {
-        SolidsUnfolded x = cross();
+        Used x = cross();
         int many = x.gluings();
         due("29: of the cross", many, 17);
         int own = x.itself();
@@ -547,6 +500,7 @@ final class PromiseTest {
         due("31: all lack one", x.lacks(own, 1), 8);
         due("31: three each", x.lacks(own, 2), 3);
         for (int g = 0; g < many; g++) {
+            x = cross();
             boolean later = g == 0;
             for (int k = 0; k < 14; k++) {
                 int mate = x.glued(g, k);
@@ -560,6 +514,7 @@ final class PromiseTest {
             due("30: no two alike", later ? 1 : 0, 1);
             due("31: points", x.lacks(g, 0), 8);
         }
+        x = cross();
         due("30: no such gluing", x.glued(many, 0), NONE);
         due("30: -1", x.glued(-1, 0), NONE);
         due("30: no side 14", x.glued(0, 14), NONE);
@@ -567,7 +522,7 @@ final class PromiseTest {
         due("31: no such gluing", x.lacks(many, 0), NONE);
         due("31: -1", x.lacks(-1, 0), NONE);
         due("31: 3", x.lacks(0, 3), NONE);
-        SolidsUnfolded y = made(TWO);
+        Used y = made(TWO);
         due("29: not all joined", y.gluings(), NONE);
         due("30: not all joined", y.glued(0, 0), NONE);
         due("31: not all joined", y.lacks(0, 0), NONE);
@@ -577,7 +532,7 @@ final class PromiseTest {
         due("32: 22 sides", y.itself(), 15);
         due("31: twelve points", y.lacks(15, 0), 12);
         due("31: eight lack", y.lacks(15, 1), 8);
-        SolidsUnfolded z = made(BENT);
+        Used z = made(BENT);
         z.tree(0);
         due("29: 30 sides", z.gluings(), -3);
         due("30: any", z.glued(MOST, 29), -3);
@@ -589,7 +544,7 @@ final class PromiseTest {
     }
 
     static void outlines() {
-        SolidsUnfolded x = cross();
+        Used x = cross();
         // Cells 0 1; 1 0, 1 1, 1 2, 1 3; 2 1 (y, x).
         long number = 17;
         for (int cell : new int[] {1, 64, 65, 66, 67, 129}) {
@@ -623,11 +578,11 @@ final class PromiseTest {
         x.keep(1);
         x.tree(0);
         due("34: kept as it was then", x.alike(1), 0);
-        due("33: no solid", new SolidsUnfolded().outline(), 0);
+        due("33: no solid", new Used().outline(), 0);
     }
 
     static void counts() {
-        SolidsUnfolded x = cross();
+        Used x = cross();
         int[] due = {1, 6, 12, 8, 5, 0, 6, 1, 0, 0, 7};
         for (int what = 0; what < due.length; what++) {
             due("36: " + what, x.count(what), due[what]);
@@ -657,9 +612,6 @@ final class PromiseTest {
         glue();
         outlines();
         counts();
-        System.out.println(tests + " tests, " + wrong + " wrong");
-        if (wrong != 0) {
-            System.exit(1);
-        }
+        finish();
     }
 }
