@@ -7,48 +7,75 @@ final class ActBoundsTest extends Twins {
     /** 1: "No SOLID": what each call answers then. */
     static void newObject() {
         Used x = new Used();
-        due("1: hinge", x.hinge(0), NONE);
-        due("1: cut", x.cut(0), NONE);
-        due("1: root", x.root(0), NONE);
-        due("1: weigh", x.weigh(0, 0), NONE);
-        due("1: span", x.span(), NONE);
-        due("1: tree 0", x.tree(0), NONE);
-        due("1: tree 1", x.tree(1), NONE);
-        due("1: trade", x.trade(0, 0), NONE);
-        due("1: mend", x.mend(), NONE);
-        due("1: seek", x.seek(), NONE);
-        due("1: undo", x.undo(), NONE);
+        noSolid("1: new, ", x);
         due("1: back 0", x.back(0), -2);
         due("1: back 1", x.back(1), -2);
-        due("1: end", x.end(0), 0);
-        due("1: solid", x.solid(), -3);
-        for (int what = -1; what < 9; what++) {
-            due("1: face", x.face(0, what), NONE);
-            due("1: side", x.side(0, 0, what), NONE);
-            due("1: edge", x.edge(0, what), NONE);
-            due("1: corner", x.corner(0, 0, what), NONE);
-            due("1: vertex", x.vertex(0, what), NONE);
-            due("1: place", x.place(0, what), -1000);
-            due("1: box", x.box(what), -1000);
-            due("1: rim NONE", x.rim(NONE, what), NONE);
-            due("1: rim", x.rim(0, what), NONE);
-            due("1: lacks", x.lacks(0, what), NONE);
-            due("1: best", x.best(what), NONE);
-        }
-        for (int k = -3; k < 3; k++) {
-            due("1: over", x.over(k), k < NONE ? NONE : k == NONE ? 0 : -2);
-            due("1: free", x.free(k), k < NONE ? NONE : k == NONE ? 0 : -2);
-            due("1: way", x.way(0, 0, k), NONE);
-        }
-        due("1: part", x.part(0), NONE);
-        due("1: gluings", x.gluings(), NONE);
-        due("1: glued", x.glued(0, 0), NONE);
-        due("1: itself", x.itself(), NONE);
-        due("1: outline", x.outline(), 0);
         due("1: alike 0", x.alike(0), NONE);
         due("1: alike 1", x.alike(1), NONE);
+        due("1: shelves", x.count(9), 0);
+        due("1: end", x.end(0), 0);
+        due("1: solid", x.solid(), -3);
+        noSolid("1: after a fault, ", x);
+    }
+
+    /** 16: that no SOLID was there is KEPT too. */
+    static void backToNothing() {
+        for (String text : new String[] {CUBE, STAR}) {
+            Used x = new Used();
+            due("15: keep nothing", x.keep(1), 0);
+            due("36: nothing is kept on 1", x.count(9), 2);
+            tell(x, text);
+            x.root(4);
+            x.tree(0);
+            x.weigh(0, 5);
+            due("16: back to nothing", x.back(1), 0);
+            noSolid("16: ", x);
+            due("16: still kept", x.count(9), 2);
+            due("34: no outlines", x.alike(1), -2);
+            due("16: once more", x.back(1), 0);
+            due("4: told again", tell(x, CUBE), 6);
+            due("4: root 0", x.count(5), 0);
+            due("4: weight 1", x.edge(0, 5), 1);
+        }
+    }
+
+    static void noSolid(String when, Used x) {
+        due(when + "hinge", x.hinge(0), NONE);
+        due(when + "cut", x.cut(0), NONE);
+        due(when + "root", x.root(0), NONE);
+        due(when + "weigh", x.weigh(0, 0), NONE);
+        due(when + "span", x.span(), NONE);
+        due(when + "tree 0", x.tree(0), NONE);
+        due(when + "tree 1", x.tree(1), NONE);
+        due(when + "trade", x.trade(0, 0), NONE);
+        due(when + "mend", x.mend(), NONE);
+        due(when + "seek", x.seek(), NONE);
+        due(when + "undo", x.undo(), NONE);
+        for (int what = -1; what < 9; what++) {
+            due(when + "face", x.face(0, what), NONE);
+            due(when + "side", x.side(0, 0, what), NONE);
+            due(when + "edge", x.edge(0, what), NONE);
+            due(when + "corner", x.corner(0, 0, what), NONE);
+            due(when + "vertex", x.vertex(0, what), NONE);
+            due(when + "place", x.place(0, what), -1000);
+            due(when + "box", x.box(what), -1000);
+            due(when + "rim NONE", x.rim(NONE, what), NONE);
+            due(when + "rim", x.rim(0, what), NONE);
+            due(when + "lacks", x.lacks(0, what), NONE);
+            due(when + "best", x.best(what), NONE);
+        }
+        for (int k = -3; k < 3; k++) {
+            due(when + "over", x.over(k), k < NONE ? NONE : k == NONE ? 0 : -2);
+            due(when + "free", x.free(k), k < NONE ? NONE : k == NONE ? 0 : -2);
+            due(when + "way", x.way(0, 0, k), NONE);
+        }
+        due(when + "part", x.part(0), NONE);
+        due(when + "gluings", x.gluings(), NONE);
+        due(when + "glued", x.glued(0, 0), NONE);
+        due(when + "itself", x.itself(), NONE);
+        due(when + "outline", x.outline(), 0);
         for (int what = 0; what <= 10; what++) {
-            due("1: count " + what, x.count(what), 0);
+            due(when + "count " + what, what == 9 ? 0 : x.count(what), 0);
         }
     }
 
@@ -527,6 +554,41 @@ final class ActBoundsTest extends Twins {
         due("16: after that", x.back(1), 4);
     }
 
+    /** "all but the TAPE, ACTS": the SOLID is KEPT too, with all its FACES and EDGES. */
+    static void keptSolids() {
+        String[] texts = {CUBE, TWO, BENT, STAR, "cube 6 6 6;cube 6 5 6;cube 5 5 6", OPEN + ";cube 0 1 0"};
+        for (String text : texts) {
+            for (String other : texts) {
+                Used x = made(text);
+                x.root(5);
+                x.tree(1);
+                due("15: kept", x.keep(0), x.count(1) - 1);
+                tell(x, other);
+                x.keep(1);
+                due("16: back", x.back(0), x.count(4));
+                Used y = made(text);
+                y.root(5);
+                y.tree(1);
+                for (int f = 0; f < y.count(1) && x.left() > 30 && y.left() > 30; f++) {
+                    due("16: cube of " + f, x.face(f, 0), y.face(f, 0));
+                    due("16: direction of " + f, x.face(f, 1), y.face(f, 1));
+                    due("16: x of " + f, x.place(f, 0), y.place(f, 0));
+                    due("16: y of " + f, x.place(f, 1), y.place(f, 1));
+                    due("16: edge of " + f, x.side(f, 3, 0), y.side(f, 3, 0));
+                    due("16: vertex of " + f, x.corner(f, 2, 0), y.corner(f, 2, 0));
+                }
+                for (int what = 0; what <= 6; what++) {
+                    due("16: count " + what, x.count(what), y.count(what));
+                }
+                due("16: the other one", x.back(1), 0);
+                Used z = made(other);
+                due("16: its faces", x.count(1), z.count(1));
+                due("16: its vertices", x.count(3), z.count(3));
+                due("16: its last edge", x.edge(x.count(2) - 1, 4), z.edge(z.count(2) - 1, 4));
+            }
+        }
+    }
+
     /** "Refused: NONE ahead of -2, that ahead of -3." */
     static void refusals() {
         Used x = cross();
@@ -566,6 +628,7 @@ final class ActBoundsTest extends Twins {
 
     public static void main(String[] args) {
         newObject();
+        backToNothing();
         toldAnew();
         hinges();
         rings();
@@ -581,6 +644,7 @@ final class ActBoundsTest extends Twins {
         eachAct();
         noActs();
         shelves();
+        keptSolids();
         refusals();
         finish();
     }

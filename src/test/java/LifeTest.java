@@ -32,12 +32,13 @@ final class LifeTest extends Check {
         String[] texts = {CUBE, ROW, TWO, STAR};
         int[] faces = {6, 30, 10, 30};
         int last = 0;
-        for (int i = 0; x.left() > 16; i++) {
+        for (int i = 0; x.left() > 18; i++) {
             due("told", tell(x, texts[i % 4]), faces[i % 4]);
             due("joined", x.tree(0) > 0 ? 1 : 0, 1);
             due("kept", x.keep(i % 2), faces[i % 4] - 1);
             if (i > 0) {
                 due("back", x.back((i + 1) % 2), faces[last] - 1);
+                due("its faces", x.count(1), faces[last]);
             }
             last = i % 4;
         }

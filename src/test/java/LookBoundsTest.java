@@ -466,6 +466,14 @@ final class LookBoundsTest extends Check {
         due("27: root alone", x.free(NONE), 0);
         due("27: none", x.free(0), -2);
         due("36: all cut ones", x.count(10), 32 - x.count(4));
+        Used y = made("cube 3 3 3;cube 3 4 3;cube 2 3 3;cube 2 4 3");
+        y.root(3);
+        y.tree(0);
+        due("27: the first edge of all", y.free(0), 0);
+        due("27: the last edge of all", y.free(5), 31);
+        due("27: no more", y.free(6), -2);
+        due("19: the first is free", y.edge(0, 7), 1);
+        due("19: the last is free", y.edge(31, 7), 1);
         notFree(BENT, 7, 0, 26);
         notFree("cube 3 3 3;cube 3 2 3;cube 3 2 2;cube 4 2 3;cube 3 1 3", 13, 1, 39);
         notFree("cube 3 3 3;cube 2 3 3;cube 2 3 2;cube 3 3 2;cube 4 3 2;cube 3 4 2", 23, 1, 5);

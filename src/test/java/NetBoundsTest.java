@@ -169,6 +169,17 @@ final class NetBoundsTest extends Check {
             tryTrades(CUBE, run[0] % 6, run[1]);
             tryTrades(TWO, run[0] % 10, run[1]);
         }
+        String tripod = "cube 0 0 0;cube 1 0 0;cube 0 1 0;cube 0 0 1";
+        tryTrades(tripod, 4, 0);
+        tryTrades(tripod, 4, 1);
+        tryTrades(tripod, 7, 1);
+        tryTrades(STAR, 2, 0);
+        tryTrades(STAR, 4, 0);
+        // What moves may come to where it lay itself, and to places where several lie already.
+        tryTrades("cube 3 3 3;cube 3 3 2;cube 4 3 3;cube 2 3 3;cube 2 3 4", 10, 1);
+        tryTrades("cube 3 3 3;cube 2 3 3;cube 3 3 4;cube 3 4 3;cube 2 3 4;cube 3 5 3", 4, 0);
+        tryTrades("cube 3 3 3;cube 3 3 2;cube 3 3 1;cube 2 3 2;cube 3 4 3;cube 4 3 3", 20, 0);
+        tryTrades("cube 3 3 3;cube 3 4 3;cube 3 2 3;cube 2 2 3;cube 3 1 3", 19, 1);
         Used x = made(CUBE);
         for (int what = -1; what <= 3; what++) {
             due("35: not joined", x.best(what), NONE);

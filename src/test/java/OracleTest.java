@@ -204,7 +204,11 @@ final class OracleTest extends Check {
             }
             int face = some(31);
             due("root", x.root(face), o.root(face));
-            due("span", x.span(), o.span());
+            if (rare(3)) {
+                due("tree", x.tree(run % 2), o.tree(run % 2));
+            } else {
+                due("span", x.span(), o.span());
+            }
             due("overlaps", x.over(NONE), o.over(NONE));
             due("outline", x.outline(), o.outline());
             if (o.over(NONE) > 0 || rare(8)) {
