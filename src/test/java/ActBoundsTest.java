@@ -1,5 +1,7 @@
 /** Each bound of what ACTS, UNDO and SHELVES are told: just inside, at it, just past it. */
 final class ActBoundsTest extends Twins {
+    private static final String FEWER_STEPS =
+        "cube 3 3 3;cube 3 3 2;cube 3 4 3;cube 2 3 3;cube 4 3 2;cube 4 3 3;cube 5 3 3";
     private static final String MOST_STEPS = "cube 5 6 5;cube 6 6 5;cube 4 6 5;cube 5 5 5;cube 4 6 6;cube 5 6 4";
     private static final String MORE_STEPS =
         "cube 4 2 2;cube 4 1 2;cube 3 2 2;cube 4 3 2;cube 5 3 2;cube 3 2 3;cube 2 2 2";
@@ -405,6 +407,11 @@ final class ActBoundsTest extends Twins {
             due("13: each hinge and the end at least", steps > 5 ? 1 : 0, 1);
             due("13: the root stays", x.count(5), root);
         }
+        Used fewer = made(FEWER_STEPS);
+        fewer.root(27);
+        due("13: 2999", fewer.seek(), 2999);
+        due("13: a net of 2999", fewer.over(NONE), 0);
+        due("13: all joined", fewer.count(4), fewer.count(1) - 1);
         Used most = made(MOST_STEPS);
         most.root(20);
         most.weigh(3, 8);

@@ -11,8 +11,24 @@ class Check {
         "cube 3 3 3;cube 2 3 3;cube 4 3 3;cube 3 2 3;cube 3 4 3;cube 3 3 2;cube 3 3 4";
     /** Round a corner: the first and the last have an EDGE in common, and no third one is there. */
     static final String OPEN = "cube 0 0 0;cube 0 0 1;cube 1 0 1;cube 1 1 1;cube 1 1 0";
+    private static final int MOST_SECONDS = 300;
     private static int wrong = 0;
     private static int tests = 0;
+
+    // A call that does not come to an end fails the test, too.
+    static {
+        Thread watch = new Thread(() -> {
+            try {
+                Thread.sleep(1000L * MOST_SECONDS);
+            } catch (InterruptedException over) {
+                return;
+            }
+            System.out.println("not at an end after " + MOST_SECONDS + " seconds");
+            Runtime.getRuntime().halt(1);
+        });
+        watch.setDaemon(true);
+        watch.start();
+    }
 
     static void due(String what, long got, long want) {
         tests++;

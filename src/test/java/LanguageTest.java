@@ -64,6 +64,16 @@ final class LanguageTest {
         }
     }
 
+    /** Rows are made with the object and used again: no call makes any (the ROOM of rule 12). */
+    static void nothingMade(String source) {
+        for (String line : source.lines().toList()) {
+            boolean field = line.contains(" final ") || line.contains("private int[] text = new int[0];");
+            boolean inConstructor = line.contains("shelves[i] = new Shelf();") || line.contains("ring[i] = new Joints();");
+            due(!line.matches(".*\\bnew\\b.*") || line.contains("//") || field || inConstructor, "made once: " + line);
+            due(!line.contains(".clone(") && !line.contains("Arrays.copyOf"), "no copy: " + line);
+        }
+    }
+
     static void lengths(String source) {
         Pattern method = Pattern.compile("(?m)^( {4}| {8})(?!for |if |while |switch |\\})[^ \n][^\n]*\\) \\{\n(?s:.*?)^\\1\\}");
         Matcher m = method.matcher(source);
@@ -81,6 +91,7 @@ final class LanguageTest {
         String source = Files.readString(Path.of("src/main/java/SolidsUnfolded.java"));
         words(source);
         face();
+        nothingMade(source);
         lengths(source);
         System.out.println(wrong == 0 ? "the language is kept" : wrong + " rules are not kept");
         if (wrong != 0) {

@@ -226,6 +226,23 @@ final class OracleTest extends Check {
         }
     }
 
+    /** FIRST NETS of 2999, of 3000 and of more STEPS. */
+    static void askSeeks() {
+        String[] texts = {"cube 3 3 3;cube 3 3 2;cube 3 4 3;cube 2 3 3;cube 4 3 2;cube 4 3 3;cube 5 3 3",
+            "cube 5 6 5;cube 6 6 5;cube 4 6 5;cube 5 5 5;cube 4 6 6;cube 5 6 4",
+            "cube 4 2 2;cube 4 1 2;cube 3 2 2;cube 4 3 2;cube 5 3 2;cube 3 2 3;cube 2 2 2"};
+        int[] roots = {27, 20, 9};
+        for (int i = 0; i < texts.length; i++) {
+            seed = 11 + i;
+            Used x = new Used();
+            Oracle o = new Oracle();
+            tell(x, o, texts[i]);
+            due("root", x.root(roots[i]), o.root(roots[i]));
+            due("steps of " + texts[i], x.seek(), o.seek());
+            due("its outline", x.outline(), o.outline());
+        }
+    }
+
     static void walk(long where) {
         seed = where;
         Used x = new Used();
@@ -254,6 +271,7 @@ final class OracleTest extends Check {
             tell(new Used(), new Oracle(), randomText());
         }
         askTrees(3 * runs);
+        askSeeks();
         finish();
     }
 }
