@@ -407,6 +407,13 @@ final class ActBoundsTest extends Twins {
             due("13: each hinge and the end at least", steps > 5 ? 1 : 0, 1);
             due("13: the root stays", x.count(5), root);
         }
+        // Both FACES of the first EDGE come to be PLACED by others, so it is CUT.
+        Used cut = made("cube 3 3 3;cube 3 3 4;cube 3 4 3;cube 2 3 4;cube 2 2 4");
+        cut.root(11);
+        due("13: steps", cut.seek(), 25);
+        due("13: hinges", cut.count(4), cut.count(1) - 1);
+        due("13: the first edge is cut", cut.edge(0, 6), 0);
+        due("13: it would be a ring", cut.hinge(0), -3);
         Used fewer = made(FEWER_STEPS);
         fewer.root(27);
         due("13: 2999", fewer.seek(), 2999);

@@ -1,5 +1,7 @@
+import java.util.ArrayList;
 import java.util.Arrays;
 import java.util.HashSet;
+import java.util.List;
 import java.util.Set;
 
 /** Each bound of OUTLINES, of the best trade and of what is counted. */
@@ -47,11 +49,7 @@ final class NetBoundsTest extends Check {
                 continue;
             }
             Used x = made(CUBE);
-            int done = 0;
-            for (int e = 0; e < 12; e++) {
-                done += (bits >> e & 1) == 1 && x.hinge(e) > 0 ? 1 : 0;
-            }
-            if (done < 5) {
+            if (hinges(x, bits) < 5) {
                 due("33: a ring", x.outline(), 0);
                 continue;
             }
@@ -140,6 +138,71 @@ final class NetBoundsTest extends Check {
         return cross().outline();
     }
 
+    /** 34: each two of the eleven NETS of a cube are not alike, each one is with itself. */
+    static void eachTwo() {
+        List<Integer> nets = new ArrayList<>();
+        Set<Long> outlines = new HashSet<>();
+        for (int bits = 0; bits < 1 << 12; bits++) {
+            Used x = made(CUBE);
+            if (Integer.bitCount(bits) == 5 && hinges(x, bits) == 5 && outlines.add(x.outline())) {
+                nets.add(bits);
+            }
+        }
+        due("34: nets", nets.size(), 11);
+        for (int one : nets) {
+            for (int other : nets) {
+                // Longer OUTLINES ahead leave nothing behind.
+                Used x = made(STAR);
+                x.seek();
+                x.keep(0);
+                x.keep(1);
+                tell(x, CUBE);
+                hinges(x, one);
+                x.keep(0);
+                tell(x, TWO);
+                x.tree(one % 2);
+                x.keep(1);
+                tell(x, CUBE);
+                hinges(x, other);
+                due("34: " + one + " and " + other, x.alike(0), one == other ? 1 : 0);
+                due("34: of another solid", x.alike(1), 0);
+            }
+        }
+    }
+
+    static int hinges(Used x, int bits) {
+        int done = 0;
+        for (int e = 0; e < 12; e++) {
+            done += (bits >> e & 1) == 1 && x.hinge(e) > 0 ? 1 : 0;
+        }
+        return done;
+    }
+
+    /** 34: NETS that differ in the first cell of their OUTLINES alone. */
+    static void firstCell() {
+        String[][] twos = {{"1110334426379278997475292654", "2113447016536155895535480832"},
+            {"2800182646691533640797064160", "1394761477272960416655254310"},
+            {"4936089723515327538800119809", "3432874816750578330642768914"}};
+        for (String[] two : twos) {
+            Used x = made(BENT);
+            spanBy(x, two[0]);
+            x.keep(0);
+            due("34: itself", x.alike(0), 1);
+            spanBy(x, two[1]);
+            due("34: the first cell is another one", x.alike(0), 0);
+            spanBy(x, two[0]);
+            due("34: itself again", x.alike(0), 1);
+        }
+    }
+
+    static void spanBy(Used x, String weights) {
+        for (int e = 0; e < weights.length(); e++) {
+            x.weigh(e, weights.charAt(e) - '0');
+        }
+        x.span();
+        due("34: a net", x.outline() != 0 ? 1 : 0, 1);
+    }
+
     /** 34: mirrored: a NET and its mirror image (all turned round x) have one OUTLINE. */
     static void mirrored() {
         Used x = made(CUBE);
@@ -176,10 +239,16 @@ final class NetBoundsTest extends Check {
         tryTrades(STAR, 2, 0);
         tryTrades(STAR, 4, 0);
         // What moves may come to where it lay itself, and to places where several lie already.
-        tryTrades("cube 3 3 3;cube 3 3 2;cube 4 3 3;cube 2 3 3;cube 2 3 4", 10, 1);
-        tryTrades("cube 3 3 3;cube 2 3 3;cube 3 3 4;cube 3 4 3;cube 2 3 4;cube 3 5 3", 4, 0);
-        tryTrades("cube 3 3 3;cube 3 3 2;cube 3 3 1;cube 2 3 2;cube 3 4 3;cube 4 3 3", 20, 0);
-        tryTrades("cube 3 3 3;cube 3 4 3;cube 3 2 3;cube 2 2 3;cube 3 1 3", 19, 1);
+        String[] texts = {"cube 3 3 3;cube 3 3 2;cube 4 3 3;cube 2 3 3;cube 2 3 4",
+            "cube 3 3 3;cube 2 3 3;cube 3 3 4;cube 3 4 3;cube 2 3 4;cube 3 5 3",
+            "cube 3 3 3;cube 3 3 2;cube 3 3 1;cube 2 3 2;cube 3 4 3;cube 4 3 3",
+            "cube 3 3 3;cube 3 4 3;cube 3 2 3;cube 2 2 3;cube 3 1 3", "cube 3 3 3;cube 3 3 4;cube 4 3 3;cube 4 2 3"};
+        for (String text : texts) {
+            int faces = made(text).count(1);
+            for (int run = 0; run < 2 * faces; run++) {
+                tryTrades(text, run / 2, run % 2);
+            }
+        }
         Used x = made(CUBE);
         for (int what = -1; what <= 3; what++) {
             due("35: not joined", x.best(what), NONE);
@@ -249,6 +318,8 @@ final class NetBoundsTest extends Check {
         elevenNets();
         longOutlines();
         alikes();
+        eachTwo();
+        firstCell();
         mirrored();
         bests();
         counts();

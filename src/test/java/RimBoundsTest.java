@@ -183,7 +183,9 @@ final class RimBoundsTest extends Check {
                 due("32: that of the solid", y.itself(), g);
             }
         }
+        manyOfOne(text, run, due, angles);
         int sides = partners.length;
+        x.glued(many - 1, 0);
         for (int k : new int[] {-1, sides, sides + 1, 22, 23, LEAST, MOST}) {
             due("30: no side " + k, x.glued(0, k), NONE);
             due("30: no side " + k + " of the last", x.glued(many - 1, k), NONE);
@@ -199,6 +201,22 @@ final class RimBoundsTest extends Check {
             boolean known = what >= 0 && what <= 2;
             due("31: first, " + what, x.lacks(0, what) >= 0 ? 1 : 0, known ? 1 : 0);
             due("31: last, " + what, x.lacks(many - 1, what) >= 0 ? 1 : 0, known ? 1 : 0);
+        }
+    }
+
+    /** One object asked for all GLUINGS, from the last to the first and up again: none leaves anything behind. */
+    static void manyOfOne(String text, int run, List<int[]> due, int[] angles) {
+        Used x = tree(text, run / 2, run % 2);
+        int many = due.size();
+        for (int i = 0; i < 2 * many; i++) {
+            int g = i < many ? many - 1 - i : i - many;
+            List<Integer> points = points(due.get(g), angles);
+            due("31: points of " + g, x.lacks(g, 0), points.size());
+            due("31: below 4 of " + g, x.lacks(g, 1), points.stream().filter(a -> a < 4).count());
+            due("30: first of " + g, x.glued(g, 0), due.get(g)[0]);
+            due("31: least of " + g, x.lacks(g, 2), points.stream().mapToInt(a -> a).min().getAsInt());
+            due("30: last of " + g, x.glued(g, angles.length - 1), due.get(g)[angles.length - 1]);
+            due("30: none behind the last", x.glued(many, 0), NONE);
         }
     }
 

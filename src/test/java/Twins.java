@@ -54,7 +54,7 @@ class Twins extends Check {
             due(what, call.on(one), due);
             instead.on(other);
             due(what + ", later", later.on(one), later.on(other));
-            while (next < looks.size() && one.left() > 0 && other.left() > 0) {
+            while (next < looks.size() && one.left() > 4 && other.left() > 4) {
                 due(what + ", look " + next, looks.get(next).on(one), looks.get(next).on(other));
                 next++;
             }
