@@ -81,8 +81,4 @@ class Check {
         x.tree(0);
         return x;
     }
-
-    static String times(String text, int many) {
-        return text.repeat(many);
-    }
 }

@@ -45,7 +45,8 @@ final class LanguageTest {
         due(SolidsUnfolded.class.getDeclaredClasses().length <= 11, "twelve classes");
         hidden(SolidsUnfolded.class, names);
         for (Class<?> inside : SolidsUnfolded.class.getDeclaredClasses()) {
-            due(Modifier.isStatic(inside.getModifiers()) && Modifier.isPrivate(inside.getModifiers()), inside + " private");
+            int kind = inside.getModifiers();
+            due(Modifier.isStatic(kind) && Modifier.isPrivate(kind), inside + " private");
             due(inside.getDeclaredFields().length <= 20, inside + " twenty fields");
             for (Member m : inside.getDeclaredMethods()) {
                 due(!names.contains(m.getName()), m + " has a name of its own");
@@ -68,14 +69,16 @@ final class LanguageTest {
     static void nothingMade(String source) {
         for (String line : source.lines().toList()) {
             boolean field = line.contains(" final ") || line.contains("private int[] text = new int[0];");
-            boolean inConstructor = line.contains("shelves[i] = new Shelf();") || line.contains("ring[i] = new Joints();");
+            boolean inConstructor = line.contains("shelves[i] = new Shelf();")
+                || line.contains("ring[i] = new Joints();");
             due(!line.matches(".*\\bnew\\b.*") || line.contains("//") || field || inConstructor, "made once: " + line);
             due(!line.contains(".clone(") && !line.contains("Arrays.copyOf"), "no copy: " + line);
         }
     }
 
     static void lengths(String source) {
-        Pattern method = Pattern.compile("(?m)^( {4}| {8})(?!for |if |while |switch |\\})[^ \n][^\n]*\\) \\{\n(?s:.*?)^\\1\\}");
+        String begin = "(?m)^( {4}| {8})(?!for |if |while |switch |\\})[^ \n][^\n]*\\) \\{\n";
+        Pattern method = Pattern.compile(begin + "(?s:.*?)^\\1\\}");
         Matcher m = method.matcher(source);
         int methods = 0;
         while (m.find()) {

@@ -198,7 +198,8 @@ final class LookBoundsTest extends Check {
                 int[] face = faces.get(slot / 4);
                 int i = slot % 4;
                 int v = x.corner(slot / 4, i, 0);
-                String at = sum(twice(cubes[face[0]]), way(face[1]), sideWay(face[1], i), sideWay(face[1], (i + 1) % 4));
+                int d = face[1];
+                String at = sum(twice(cubes[face[0]]), way(d), sideWay(d, i), sideWay(d, (i + 1) % 4));
                 if (v == points.size()) {
                     points.add(at);
                 }

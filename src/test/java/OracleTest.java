@@ -32,7 +32,8 @@ final class OracleTest extends Check {
         }
         StringBuilder text = new StringBuilder();
         for (int[] c : all) {
-            text.append(text.length() == 0 ? "" : ";").append(rare(4) ? " " : "").append("cube").append(rare(3) ? "" : " ");
+            text.append(text.length() == 0 ? "" : ";").append(rare(4) ? " " : "");
+            text.append("cube").append(rare(3) ? "" : " ");
             for (int axis = 0; axis < 3; axis++) {
                 text.append(axis > 0 ? " " : "").append(rare(30) ? "0" : "").append(c[axis]).append(rare(9) ? " " : "");
             }

@@ -214,7 +214,8 @@ final class TextBoundsTest extends Check {
     /** FAULT 1: "or the text ends (the place behind its last byte)": a text that ends anywhere. */
     static void textEnds() {
         String text = " cube 0 06 0 ; cube 1 6 0 ";
-        int[] place = {0, 1, 1, 1, 1, 5, 6, 7, 8, 9, 10, 11, -6, -6, 14, 15, 15, 15, 15, 19, 20, 21, 22, 23, 24, -10, -10};
+        int[] place = {0, 1, 1, 1, 1, 5, 6, 7, 8, 9, 10, 11, -6, -6,
+            14, 15, 15, 15, 15, 19, 20, 21, 22, 23, 24, -10, -10};
         for (int n = 0; n <= text.length(); n++) {
             String part = text.substring(0, n);
             if (place[n] < 0) {
