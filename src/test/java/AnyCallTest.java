@@ -12,7 +12,8 @@ final class AnyCallTest extends Check {
         "cube 3 3 3;cube 2 3 3;cube 4 3 3;cube 3 2 3;cube 3 4 3", STAR,
         "cube0 0 0;cube0 0 1;cube0 0 2;cube0 0 3;cube0 0 4;cube0 0 5;cube0 0 6"};
     private static final int[] EDGES = {LEAST, LEAST + 1, -1001, -3, -2, -1, 0, 1, 2, 3, 4, 5, 7, 10, 14, 22,
-        29, 30, 31, 32, 59, 60, 61, 62, 63, 64, 119, 120, 200, 1 << 16, 1 << 28, 1 << 30, (1 << 30) + 1, MOST / 2, MOST - 1, MOST};
+        29, 30, 31, 32, 59, 60, 61, 62, 63, 64, 119, 120, 200, 1 << 16, 1 << 28, 1 << 30, (1 << 30) + 1,
+        MOST / 2, MOST - 1, MOST};
     private static final List<Method> ALL = new ArrayList<>();
     private static long seed = 7;
     private static long calls = 0;
