@@ -203,6 +203,31 @@ final class NetBoundsTest extends Check {
         due("34: a net", x.outline() != 0 ? 1 : 0, 1);
     }
 
+    /** 34 asks for OUTLINES, not for their numbers: of the 723 NETS of two cubes, three twos have one number. */
+    static void oneNumber() {
+        int[][][] twos = {
+            {{0, 1, 2, 3, 5, 12, 13, 17, 19}, {0, 1, 6, 7, 9, 14, 16, 17, 18}},
+            {{0, 1, 2, 5, 7, 8, 11, 12, 16}, {0, 1, 5, 6, 9, 10, 13, 14, 19}},
+            {{0, 1, 2, 5, 8, 12, 15, 16, 18}, {0, 1, 6, 7, 9, 13, 16, 17, 18}}};
+        long[] numbers = {13936382708070161L, 13936382649888339L, 13936382708070162L};
+        for (int i = 0; i < twos.length; i++) {
+            Used x = made(TWO);
+            for (int which = 0; which < 2; which++) {
+                tell(x, TWO);
+                for (int edge : twos[i][which]) {
+                    x.hinge(edge);
+                }
+                due("33: two OUTLINES of one number", x.outline(), numbers[i]);
+                x.keep(which);
+            }
+            due("34: one number, two OUTLINES", x.alike(0), 0);
+            due("34: itself", x.alike(1), 1);
+            x.back(0);
+            due("34: itself, back", x.alike(0), 1);
+            due("34: one number, two OUTLINES, back", x.alike(1), 0);
+        }
+    }
+
     /** 34: mirrored: a NET and its mirror image (all turned round x) have one OUTLINE. */
     static void mirrored() {
         Used x = made(CUBE);
@@ -320,6 +345,7 @@ final class NetBoundsTest extends Check {
         alikes();
         eachTwo();
         firstCell();
+        oneNumber();
         mirrored();
         bests();
         counts();
